@@ -493,9 +493,9 @@ public final class LitReach {
 
     // ---- light and sound
 
-    /** What LIGHT or SOUND loses at the WALL of a THING; NONE: it does not pass, or there is no such WALL. */
+    /** What LIGHT or SOUND loses at the WALL of a BOX; NONE: it does not pass, or that is no BOX. */
     private int wallLoss(int x, int mark) {
-        if (sortOf(x) != A_BOX || spaceOf(x) == NONE) {
+        if (sortOf(x) != A_BOX) {
             return NONE;
         }
         if (markOf(x, OPEN) == 1) {
@@ -567,7 +567,7 @@ public final class LitReach {
         }
     }
 
-    /** Whether a level has grown by it. */
+    /** Whether a level has grown by it. The WALL of a BOX that has no SPACE leads to NONE: that is no STEP. */
     private boolean spreadOver(int a, int b, int loss) {
         if (!isThing(a) || !isThing(b)) {
             return false;
@@ -627,7 +627,11 @@ public final class LitReach {
         return wide;
     }
 
+    /** Both ends of a STEP, if one is in view; none of what leads to NONE. */
     private static int endsIfTouched(int view, int a, int b) {
+        if (a < 0 || b < 0) {
+            return 0;
+        }
         int ends = (1 << a) | (1 << b);
         return (view & ends) != 0 ? ends : 0;
     }

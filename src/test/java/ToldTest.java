@@ -124,7 +124,15 @@ public final class ToldTest {
                 "sees(1, 2) = 0; sees(1, 0) = 0; set(0, 2, 1) = 0; sees(1, 2) = 1; sees(1, 0) = 1; sees(1, 1) = 0",
                 "set(0, 2, 0) = 1; set(2, 2, 1) = 0; sees(1, 2) = 1; sees(1, 0) = 1; put(2, 1) = 0; sees(1, 2) = 1; sees(1, 0) = 1");
         RUNS.run("17 without a space", "thing(0) = 0; thing(3) = 1; thing(4) = 2; put(2, 1) = NONE; set(2, 2, 9) = 0; sees(1, 2) = 0",
-                "put(1, 0) = NONE; sees(1, 2) = 1; put(2, -1) = 1; sees(1, 2) = 0; put(2, 0) = NONE; sees(1, 2) = 1");
+                "put(1, 0) = NONE; sees(1, 2) = 1; put(2, -1) = 1; sees(1, 2) = 0; put(2, 0) = NONE; sees(1, 2) = 1",
+                "set(0, 2, 9) = 0; put(1, -1) = 0; sees(1, 0) = 0; sees(1, 2) = 0");
+        RUNS.run("17 from one box without a space into another", "thing(1) = 0; thing(1) = 1; thing(3) = 2; thing(4) = 3",
+                "put(2, 0) = NONE; put(3, 1) = NONE; set(0, 0, 1) = 0; set(1, 0, 1) = 0; set(3, 2, 9) = 0; sees(2, 3) = 0",
+                "sees(2, 1) = 0; loses(0, 1, 0) = NONE; loses(0, 1, 1) = NONE; put(3, 0) = 1; sees(2, 3) = 1");
+        RUNS.run("17 an open box without a space opens no view", "thing(0) = 0; thing(0) = 1; thing(3) = 2; thing(1) = 3",
+                "put(2, 1) = NONE; set(0, 2, 9) = 0; set(3, 0, 1) = 0; sees(2, 0) = 0; scope(2, 0) = 1; scope(2, 1) = NONE");
+        RUNS.run("17 into 27 boxes", nested(), "sees(1, 29) = 1; space(0, 0) = 1; loses(0, 2, 0) = 0; loses(2, 0, 1) = 0",
+                "set(15, 0, 0) = 1; sees(1, 29) = 0; sees(1, 15) = 0; set(1, 2, 1) = 0; sees(1, 15) = 1; sees(1, 14) = 0");
         RUNS.run("17 into a box and out of it",
                 "thing(0) = 0; thing(3) = 1; thing(1) = 2; thing(4) = 3; put(1, 0) = NONE; put(2, 0) = NONE; put(3, 2) = NONE",
                 "set(0, 2, 5) = 0; sees(1, 2) = 1; sees(1, 3) = 0; set(2, 1, 1) = 0; sees(1, 3) = 1; set(2, 1, 0) = 1",
@@ -137,6 +145,18 @@ public final class ToldTest {
                 "sees(1, 3) = UNKNOWN; sees(2, 3) = UNKNOWN; sees(4, 3) = UNKNOWN; sees(5, 3) = UNKNOWN; sees(-1, 3) = UNKNOWN",
                 "sees(3, 5) = UNKNOWN; sees(3, -1) = UNKNOWN; sees(MIN, 3) = UNKNOWN; sees(3, MAX) = UNKNOWN; sees(4, 4) = UNKNOWN",
                 "sees(3, 3) = 0; sees(3, 0) = 0");
+    }
+
+    /** A ROOM 0 with a PERSON 1 and the BOX 28, in which 27 is, and so on to 2, in which a lit LUMP 29 is; all OPEN. */
+    private static String nested() {
+        StringBuilder text = new StringBuilder("thing(0) = 0; thing(3) = 1; put(1, 0) = NONE;");
+        for (int x = 2; x < 29; x++) {
+            text.append("thing(1) = ").append(x).append("; set(").append(x).append(", 0, 1) = 0;");
+        }
+        for (int x = 2; x < 28; x++) {
+            text.append("put(").append(x).append(", ").append(x + 1).append(") = NONE;");
+        }
+        return text + "put(28, 0) = NONE; thing(4) = 29; put(29, 2) = NONE; set(29, 2, 1) = 0;";
     }
 
     private static void promise17SeesOverDoors() {
