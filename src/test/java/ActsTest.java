@@ -12,16 +12,6 @@ public final class ActsTest {
         RUNS.end();
     }
 
-    /** n LUMPS from a number on, put into a holder. */
-    private static String lumpsIn(int holder, int first, int n) {
-        StringBuilder text = new StringBuilder();
-        for (int x = first; x < first + n; x++) {
-            text.append("thing(4) = ").append(x);
-            text.append("; put(").append(x).append(", ").append(holder).append(") = NONE;");
-        }
-        return text.toString();
-    }
-
     private static void promise8Take() {
         RUNS.run("8 from the room, twice", "thing(0) = 0; thing(3) = 1; thing(4) = 2; put(1, 0) = NONE; put(2, 0) = NONE",
                 "take(1, 2) = 1; told(2, 1) = 1; take(1, 2) = 0; told(2, 1) = 1; told(0, 3) = 1");
@@ -54,7 +44,7 @@ public final class ActsTest {
         RUNS.run("8 out of the hands of another", "thing(0) = 0; thing(3) = 1; thing(3) = 2; thing(4) = 3; put(1, 0) = NONE",
                 "put(2, 0) = NONE; put(3, 2) = NONE; take(1, 3) = BARRED; told(3, 1) = 2");
         RUNS.run("8 a full person; barred and apart ahead of it", "thing(0) = 0; thing(3) = 1; thing(1) = 2; put(1, 0) = NONE",
-                "put(2, 0) = NONE;" + lumpsIn(1, 3, 8),
+                "put(2, 0) = NONE;" + Runs.lumpsIn(1, 3, 8),
                 "thing(4) = 11; take(1, 11) = APART; put(11, 2) = NONE; take(1, 11) = BARRED; put(11, 0) = 2",
                 "take(1, 11) = ROOM; told(11, 1) = 0; take(1, 3) = 0; put(3, 0) = 1; take(1, 11) = 1; take(1, 3) = ROOM");
     }
@@ -91,7 +81,7 @@ public final class ActsTest {
         RUNS.run("9 a shut box, from without, from within, carried", some,
                 "give(1, 5, 2) = BARRED; put(1, 2) = 0; give(1, 5, 2) = BARRED; set(2, 1, 1) = 0; give(1, 5, 2) = BARRED",
                 "put(1, 0) = 2; put(2, 1) = 0; give(1, 5, 2) = BARRED; set(2, 0, 1) = 0; give(1, 5, 2) = 1");
-        RUNS.run("9 a full one; barred ahead of it", some, lumpsIn(2, 6, 8),
+        RUNS.run("9 a full one; barred ahead of it", some, Runs.lumpsIn(2, 6, 8),
                 "give(1, 5, 2) = BARRED; set(2, 0, 1) = 0; give(1, 5, 2) = ROOM; told(5, 1) = 1",
                 "put(6, 0) = 2; give(1, 5, 2) = 1");
     }
@@ -110,9 +100,9 @@ public final class ActsTest {
                 "drop(-1, 3) = UNKNOWN; drop(-1, 0) = UNKNOWN; drop(MIN, MIN) = UNKNOWN; drop(2, MAX) = UNKNOWN");
         RUNS.run("10 apart; unknown ahead of it", "thing(3) = 0; thing(4) = 1; drop(0, 1) = UNKNOWN; put(1, 0) = NONE",
                 "drop(0, 1) = APART; told(1, 1) = 0");
-        RUNS.run("10 a full one", "thing(2) = 0; thing(3) = 1; put(1, 0) = NONE", lumpsIn(0, 2, 7),
+        RUNS.run("10 a full one", "thing(2) = 0; thing(3) = 1; put(1, 0) = NONE", Runs.lumpsIn(0, 2, 7),
                 "thing(4) = 9; put(9, 1) = NONE; drop(1, 9) = ROOM; told(9, 1) = 1; put(2, -1) = 0; drop(1, 9) = 1");
-        RUNS.run("10 a room has any number", "thing(0) = 0; thing(3) = 1; put(1, 0) = NONE", lumpsIn(0, 2, 9),
+        RUNS.run("10 a room has any number", "thing(0) = 0; thing(3) = 1; put(1, 0) = NONE", Runs.lumpsIn(0, 2, 9),
                 "thing(4) = 11; put(11, 1) = NONE; drop(1, 11) = 1; told(0, 3) = 11");
     }
 
@@ -129,6 +119,6 @@ public final class ActsTest {
                 "put(6, 0) = NONE; put(3, 6) = NONE; set(6, 0, 1) = 0; go(3, 0) = APART; told(3, 1) = 6");
         RUNS.run("11 barred, clear or not", some, "go(3, 0) = BARRED; turn(0, 1, 1) = 0; go(3, 0) = BARRED; told(3, 1) = 0",
                 "turn(0, 0, 1) = 0; go(3, 0) = 1");
-        RUNS.run("11 a full room there is not", some, lumpsIn(1, 7, 9), "turn(0, 0, 1) = 0; go(3, 0) = 1; told(1, 3) = 10");
+        RUNS.run("11 a full room there is not", some, Runs.lumpsIn(1, 7, 9), "turn(0, 0, 1) = 0; go(3, 0) = 1; told(1, 3) = 10");
     }
 }

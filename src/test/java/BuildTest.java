@@ -71,24 +71,15 @@ public final class BuildTest {
     }
 
     private static void promise4PutFull() {
-        RUNS.run("4 eight at most", "thing(0) = 0; thing(1) = 1; thing(2) = 2", lumpsIn(1, 3, 11),
+        RUNS.run("4 eight at most", "thing(0) = 0; thing(1) = 1; thing(2) = 2", Runs.lumpsIn(1, 3, 8),
                 "thing(4) = 11; put(11, 1) = ROOM; told(11, 1) = NONE; told(1, 3) = 8",
                 "put(3, 1) = 1; put(2, 1) = ROOM; put(3, 2) = 1; put(11, 1) = NONE",
                 "put(3, 1) = ROOM; told(3, 1) = 2");
-        RUNS.run("4 unknown and ring ahead of room", "thing(1) = 0; thing(2) = 1; put(1, 0) = NONE", lumpsIn(1, 2, 10),
+        RUNS.run("4 unknown and ring ahead of room", "thing(1) = 0; thing(2) = 1; put(1, 0) = NONE", Runs.lumpsIn(1, 2, 8),
                 "put(0, 1) = RING; put(10, 1) = UNKNOWN; thing(0) = 10; put(10, 1) = UNKNOWN; put(10, 0) = UNKNOWN");
-        RUNS.run("4 a room has any number", "thing(0) = 0", lumpsIn(0, 1, 30), "told(0, 3) = 29");
-        RUNS.run("4 a person has eight", "thing(3) = 0", lumpsIn(0, 1, 9), "thing(4) = 9; put(9, 0) = ROOM");
-        RUNS.run("4 a shelf has eight", "thing(2) = 0", lumpsIn(0, 1, 9), "thing(4) = 9; put(9, 0) = ROOM");
-    }
-
-    private static String lumpsIn(int holder, int first, int behindLast) {
-        StringBuilder text = new StringBuilder();
-        for (int x = first; x < behindLast; x++) {
-            text.append("thing(4) = ").append(x);
-            text.append("; put(").append(x).append(", ").append(holder).append(") = NONE;");
-        }
-        return text.toString();
+        RUNS.run("4 a room has any number", "thing(0) = 0", Runs.lumpsIn(0, 1, 29), "told(0, 3) = 29");
+        RUNS.run("4 a person has eight", "thing(3) = 0", Runs.lumpsIn(0, 1, 8), "thing(4) = 9; put(9, 0) = ROOM");
+        RUNS.run("4 a shelf has eight", "thing(2) = 0", Runs.lumpsIn(0, 1, 8), "thing(4) = 9; put(9, 0) = ROOM");
     }
 
     private static void promise5Set() {

@@ -25,6 +25,16 @@ final class Runs {
         }
     }
 
+    /** n LUMPS from a number on, put into a holder. */
+    static String lumpsIn(int holder, int first, int n) {
+        StringBuilder text = new StringBuilder();
+        for (int x = first; x < first + n; x++) {
+            text.append("thing(4) = ").append(x);
+            text.append("; put(").append(x).append(", ").append(holder).append(") = NONE;");
+        }
+        return text.toString();
+    }
+
     private void check(LitReach object, String title, String text) {
         Matcher matcher = CALL.matcher(text);
         if (!matcher.matches()) {
