@@ -52,12 +52,13 @@ public final class ModelTest {
         SlowModel model = new SlowModel();
         int rooms = 1 + random.nextInt(5);
         int things = rooms + 3 + random.nextInt(23);
-        holders = seed % 2 == 0 ? rooms + 3 : 0;
+        holders = seed % 3 == 0 ? rooms + 3 : 0;
+        boolean mixed = seed % 3 == 1;
         for (int i = 0; i < CALLS; i++) {
             String name = i < things ? "thing" : i < 2 * things ? "put" : pickName(random, i);
             int[] arguments = pickArguments(random, name, model);
             if (i < things) {
-                arguments[0] = i < rooms ? 0 : i < rooms + 3 ? 3 - (i - rooms) : 1 + random.nextInt(4);
+                arguments[0] = mixed ? random.nextInt(5) : orderedSort(random, i, rooms);
             } else if (i < 2 * things) {
                 arguments[0] = i - things;
             }
@@ -71,6 +72,14 @@ public final class ModelTest {
                 return;
             }
         }
+    }
+
+    /** First the ROOMS, then a PERSON, a SHELF, a BOX, then all but ROOMS. */
+    private static int orderedSort(Random random, int i, int rooms) {
+        if (i < rooms) {
+            return 0;
+        }
+        return i < rooms + 3 ? 3 - (i - rooms) : 1 + random.nextInt(4);
     }
 
     private static String pickName(Random random, int i) {

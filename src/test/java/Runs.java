@@ -15,7 +15,10 @@ final class Runs {
     private int made = 0;
 
     void run(String title, String... texts) {
-        LitReach object = new LitReach();
+        runOn(new LitReach(), title, texts);
+    }
+
+    private void runOn(LitReach object, String title, String... texts) {
         for (String text : texts) {
             for (String one : text.split(";")) {
                 if (!one.isBlank()) {
@@ -23,6 +26,57 @@ final class Runs {
                 }
             }
         }
+    }
+
+    /** Each of the calls on an object of its own, which must be the same afterwards as one without that call. */
+    void changeNothing(String title, String setup, String... texts) {
+        String due = stateAfter(title, setup);
+        for (String text : texts) {
+            for (String one : text.split(";")) {
+                if (!one.isBlank() && !stateAfter(title, setup, one).equals(due)) {
+                    wrong++;
+                    System.out.println(title + ": " + one.trim() + " has changed something");
+                }
+            }
+        }
+    }
+
+    /** All that can be told of an object. To ask for the marks of DOORS is to turn them: it is of no use later. */
+    private String stateAfter(String title, String... texts) {
+        LitReach object = new LitReach();
+        runOn(object, title, texts);
+        StringBuilder state = new StringBuilder();
+        int things = object.count(0);
+        for (int x = 0; x < things; x++) {
+            for (int what : new int[] {0, 1, 5, 6, 7, 8}) {
+                state.append(object.told(x, what)).append(' ');
+            }
+            for (int y = 0; y < x && object.told(x, 0) == 0 && object.told(y, 0) == 0; y++) {
+                state.append(object.loses(x, y, 0)).append(object.loses(x, y, 1)).append(' ');
+            }
+        }
+        for (int door = 0; door < object.count(1); door++) {
+            state.append('/').append(object.turn(door, 0, 0)).append(object.turn(door, 1, 0));
+        }
+        return state.toString();
+    }
+
+    /** The text once for each of the words, in the place of its '?'. */
+    static String each(String text, String... words) {
+        StringBuilder all = new StringBuilder();
+        for (String word : words) {
+            all.append(text.replace("?", word)).append(';');
+        }
+        return all.toString();
+    }
+
+    /** The same for each number from the first to the last. */
+    static String eachFrom(String text, int first, int last) {
+        StringBuilder all = new StringBuilder();
+        for (int number = first; number <= last; number++) {
+            all.append(each(text, Integer.toString(number)));
+        }
+        return all.toString();
     }
 
     /** n LUMPS from a number on, put into a holder. */
